@@ -234,13 +234,9 @@ public final class GlacierYears {
     public int turn(int how) {
         if (how < 0 || how > 1) return OUTSIDE;
         if (!land.lies()) return STATE;
-        oldLand.become(land);
+        oldLand.becomeCellsOf(land);
         oldIce.become(ice);
-        if (how == 0) {
-            mirrorCells();
-        } else {
-            quarterTurnCells();
-        }
+        turnCells(how == 1);
         past.forget();
         return land.width;
     }
@@ -443,27 +439,14 @@ public final class GlacierYears {
 
     // ---- turn. The new cells are laid row by row, as the list of open cells wants them.
 
-    private void mirrorCells() {
-        beginTurned(oldLand.width, oldLand.height);
+    private void turnCells(boolean quarter) {
+        land.begin(quarter ? oldLand.height : oldLand.width, quarter ? oldLand.width : oldLand.height);
         for (int y = 0; y < land.height; y++) {
             for (int x = 0; x < land.width; x++) {
-                fetchCell(x, y, oldLand.placeAt(land.width - 1 - x, y));
+                int across = land.width - 1 - x;
+                fetchCell(x, y, quarter ? oldLand.placeAt(y, across) : oldLand.placeAt(across, y));
             }
         }
-    }
-
-    private void quarterTurnCells() {
-        beginTurned(oldLand.height, oldLand.width);
-        for (int y = 0; y < land.height; y++) {
-            for (int x = 0; x < land.width; x++) {
-                fetchCell(x, y, oldLand.placeAt(y, land.width - 1 - x));
-            }
-        }
-    }
-
-    private void beginTurned(int width, int height) {
-        land.begin(width, height);
-        ice.clearPlaces();
     }
 
     private void fetchCell(int x, int y, int from) {
@@ -594,14 +577,13 @@ public final class GlacierYears {
             }
         }
 
-        void become(Land other) {
+        /** The cells alone: they are listed as they settle. */
+        void becomeCellsOf(Land other) {
             width = other.width;
             height = other.height;
-            openCells = other.openCells;
             System.arraycopy(other.levels, 0, levels, 0, PLACES);
             System.arraycopy(other.kinds, 0, kinds, 0, PLACES);
             System.arraycopy(other.hundredths, 0, hundredths, 0, PLACES);
-            System.arraycopy(other.open, 0, open, 0, PLACES);
         }
     }
 
@@ -614,14 +596,9 @@ public final class GlacierYears {
 
         void clear() {
             year = 0;
-            clearPlaces();
-            Arrays.fill(tallies, 0L);
-        }
-
-        /** The sums stay: the ice comes back to other places. */
-        void clearPlaces() {
             Arrays.fill(grains, 0L);
             Arrays.fill(thicknesses, 0L);
+            Arrays.fill(tallies, 0L);
         }
 
         void become(Ice other) {

@@ -72,6 +72,8 @@ public final class GroundTest {
         due.is("7: sum of YEAR 0 is 0", x.sum(4, 0), 0);
         due.is("7: no ice", x.about(0), 0);
         due.is("7: no ice in a cell", x.cell(0, 0, 1), 0);
+        due.is("7: no LAYERS in a cell", x.cell(0, 0, 3), 0);
+        due.is("7: no LAYERS in a cell", x.layer(0, 0, 0, 1), NONE);
         due.is("7: the YEAR is 0", x.count(2), 0);
         due.is("7: none to take back", x.count(3), 0);
         due.is("7: back", x.back(), STATE);

@@ -11,6 +11,7 @@ public final class ToldTest {
         sum();
         sumRefused();
         about();
+        aboutOneGrain();
         aboutWithoutIce();
         gives();
         refusedByPlace();
@@ -19,6 +20,7 @@ public final class ToldTest {
         turnKeeps();
         turnRefused();
         count();
+        greatest();
         due.end();
     }
 
@@ -156,6 +158,24 @@ public final class ToldTest {
         due.is("19: the oldest YEAR", x.about(3), 1);
         due.is("19: all as thick: the first", x.about(4), 0);
         due.is("19: the lowest SURFACE", x.about(2), 1510);
+    }
+
+    private static void aboutOneGrain() {
+        GlacierYears x = Grounds.of(new int[][] {{3000, 5000}, {5000, 5000}});
+        x.ice(0, 0, 1);
+        long[] want = {1, 1, 3001, 0, 0};
+        for (int what = 0; what <= 4; what++) due.is("19: one grain, what " + what, x.about(what), want[what]);
+        due.is("16: one grain is a LAYER", x.cell(0, 0, 3), 1);
+        due.is("17: one grain is a LAYER", x.layer(0, 0, 0, 1), 1);
+        x.tell(false, 5, 9);
+        x.years(1);
+        due.is("19: one grain of YEAR 0 lies", x.about(3), 0);
+        due.is("19: the lowest SURFACE is the first", x.about(2), 3001);
+        x.tell(true, 3, 1);
+        x.years(1);
+        due.is("13: one grain melts", x.cell(0, 0, 1), 0);
+        due.is("19: YEAR 0 is gone", x.about(3), 1);
+        due.is("19: two of the others are as thick", x.about(4), 1);
     }
 
     private static void aboutWithoutIce() {
@@ -322,5 +342,39 @@ public final class ToldTest {
         x.ground(8, 8);
         long[] anew = {8, 8, 0, 0, 5, 59, 2};
         for (int what = 0; what <= 6; what++) due.is("22: anew, what " + what, x.count(what), anew[what]);
+    }
+
+    /** The greatest ground, without a CLIFF, so that every row is full. */
+    private static void greatest() {
+        GlacierYears x = Grounds.flat(8, 8, 9999);
+        x.kind(7, 7, 3, 0);
+        x.ice(6, 7, 1000000);
+        x.tell(false, 9, 100000);
+        x.rule(100, 1000000);
+        due.is("20: the last cell, to the left", x.gives(6, 7, 1), 125000);
+        due.is("13: 60 YEARS", x.years(60), 60);
+        due.is("18: came", x.sum(4, NONE), 60L * 64 * 100000 + 1000000);
+        accounted(x, NONE);
+        due.is("19: ice in all but the LAKE", x.about(0), 63);
+        due.is("19: the lowest SURFACE", x.about(2), lowestOf(x));
+        due.is("14: back", x.back(), 59);
+        due.is("15: steady", x.steady(1), 0);
+        due.is("21: turned", x.turn(1), 8);
+        due.is("21: the LAKE", x.taken(0, 7, 3, 0), 3);
+        due.is("21: mirrored", x.turn(0), 8);
+        due.is("21: the LAKE", x.taken(7, 7, 3, 0), 3);
+        due.is("19: no CLIFFS", x.count(5), 0);
+        accounted(x, NONE);
+        x = Grounds.flat(8, 8, 0);
+        due.is("15: 60 YEARS of nothing are alike", x.steady(60), 1);
+        x.tell(false, 0, 1);
+        due.is("15: 59 YEARS", x.steady(59), 0);
+        due.is("15: the last THICKNESS", x.cell(7, 7, 1), 59);
+    }
+
+    private static long lowestOf(GlacierYears x) {
+        long lowest = Long.MAX_VALUE;
+        for (int i = 0; i < 63; i++) lowest = Math.min(lowest, x.cell(i % 8, i / 8, 2));
+        return lowest;
     }
 }
