@@ -71,7 +71,22 @@ public final class FaceTest {
             int m = c.getModifiers();
             due.holds(c + " is static and not public", Modifier.isStatic(m) && !Modifier.isPublic(m) && !Modifier.isProtected(m));
             due.holds(c + " has at most twenty fields", c.getDeclaredFields().length <= 20);
+            due.holds("rule 2: " + c + " stands alone", !c.isLocalClass() && !c.isAnonymousClass() && c.getEnclosingMethod() == null);
+            for (Method inner : c.getDeclaredMethods()) oneInside(inner);
         }
+        for (Method m : GlacierYears.class.getDeclaredMethods()) parameters(m);
+    }
+
+    private static void oneInside(Method m) {
+        for (String face : METHODS) {
+            due.holds("rule 1: " + m + " has a name of its own", !face.contains(" " + m.getName() + "("));
+        }
+        parameters(m);
+    }
+
+    private static void parameters(Method m) {
+        due.holds("rule 11: " + m, m.getParameterCount() <= 7);
+        due.holds("rule 7: " + m + " names no exception", m.getExceptionTypes().length == 0);
     }
 
     private static void text(String program) {
@@ -83,7 +98,29 @@ public final class FaceTest {
                 .matcher(code).find();
             due.holds("rules 3, 4, 6: no " + word, !found);
         }
+        library(code);
+        signs(program);
         for (String line : program.split("\n")) due.holds("a line of up to 120: " + line, line.length() <= 120);
+    }
+
+    /** Rules 4 and 13: of the library only what stands there, and of that only what is used. */
+    private static void library(String code) {
+        Set<String> used = new TreeSet<>();
+        java.util.regex.Matcher call = java.util.regex.Pattern.compile("\\b[A-Z]\\w*\\.[a-z]\\w*\\(").matcher(code);
+        while (call.find()) used.add(call.group());
+        due.holds("rule 4: " + used, used.equals(Set.of("Arrays.fill(", "Math.min(", "System.arraycopy(")));
+        Set<String> imported = new TreeSet<>();
+        java.util.regex.Matcher named = java.util.regex.Pattern.compile("\\bjavax?\\.[\\w.*]*").matcher(code);
+        while (named.find()) imported.add(named.group());
+        due.holds("rule 4: " + imported, imported.equals(Set.of("java.util.Arrays")));
+        due.holds("rule 5: no static initialiser", !java.util.regex.Pattern.compile("\\bstatic\\s*\\{").matcher(code).find());
+    }
+
+    /** Rule 4: the signs of a text are 1 to 127. */
+    private static void signs(String program) {
+        boolean plain = true;
+        for (int i = 0; i < program.length(); i++) plain &= program.charAt(i) >= 1 && program.charAt(i) <= 127;
+        due.holds("rule 4: signs", plain);
     }
 
     private static final int[] NUMBERS = {Integer.MIN_VALUE, -9, -1, 0, 1, 2, 3, 4, 5, 7, 8, 9, 60, 61, 100, Integer.MAX_VALUE};

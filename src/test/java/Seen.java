@@ -9,8 +9,16 @@ final class Seen {
 
     /** Without how many YEARS can be taken back, which differs between states that are otherwise alike. */
     static long[] all(GlacierYears x) {
+        return told(x, 0, 1, 2, 4, 5, 6);
+    }
+
+    static long[] withoutFailures(GlacierYears x) {
+        return told(x, 0, 1, 2, 3, 5, 6);
+    }
+
+    private static long[] told(GlacierYears x, int... counts) {
         List<Long> seen = new ArrayList<>();
-        for (int what = 0; what <= 6; what++) if (what != 3) seen.add((long) x.count(what));
+        for (int what : counts) seen.add((long) x.count(what));
         for (int y = 0; y < 8; y++) {
             for (int i = 0; i < 8; i++) place(x, i, y, seen);
         }
