@@ -1,15 +1,12 @@
-import java.io.IOException;
 import java.lang.reflect.Constructor;
 import java.lang.reflect.Field;
 import java.lang.reflect.Method;
 import java.lang.reflect.Modifier;
-import java.nio.file.Files;
-import java.nio.file.Path;
 import java.util.Arrays;
 import java.util.Set;
 import java.util.TreeSet;
 
-/** The public face, and what of LANGUAGE.md can be read off the class and its text. */
+/** The public face as the compiled class has it, and that no arguments make a call throw. */
 public final class FaceTest {
     private static final Due due = new Due("FaceTest");
 
@@ -20,11 +17,9 @@ public final class FaceTest {
         "int years(int)", "int back()", "int steady(int)", "long cell(int,int,int)", "long layer(int,int,int,int)",
         "long sum(int,int)", "long about(int)", "long gives(int,int,int)", "int turn(int)", "int count(int)"};
 
-    public static void main(String[] args) throws IOException {
+    public static void main(String[] args) {
         constants();
         methods();
-        inside();
-        if (args.length == 1) text(Files.readString(Path.of(args[0])));
         extremes();
         due.end();
     }
@@ -62,65 +57,6 @@ public final class FaceTest {
         due.holds("public", Modifier.isPublic(made[0].getModifiers()) && made[0].getParameterCount() == 0);
         due.holds("public and final", Modifier.isPublic(GlacierYears.class.getModifiers())
             && Modifier.isFinal(GlacierYears.class.getModifiers()));
-    }
-
-    private static void inside() {
-        Class<?>[] classes = GlacierYears.class.getDeclaredClasses();
-        due.holds("at most twelve classes", classes.length <= 11);
-        for (Class<?> c : classes) {
-            int m = c.getModifiers();
-            due.holds(c + " is static and not public", Modifier.isStatic(m) && !Modifier.isPublic(m) && !Modifier.isProtected(m));
-            due.holds(c + " has at most twenty fields", c.getDeclaredFields().length <= 20);
-            due.holds("rule 2: " + c + " stands alone", !c.isLocalClass() && !c.isAnonymousClass() && c.getEnclosingMethod() == null);
-            for (Method inner : c.getDeclaredMethods()) oneInside(inner);
-        }
-        for (Method m : GlacierYears.class.getDeclaredMethods()) parameters(m);
-    }
-
-    private static void oneInside(Method m) {
-        for (String face : METHODS) {
-            due.holds("rule 1: " + m + " has a name of its own", !face.contains(" " + m.getName() + "("));
-        }
-        parameters(m);
-    }
-
-    private static void parameters(Method m) {
-        due.holds("rule 11: " + m, m.getParameterCount() <= 7);
-        due.holds("rule 7: " + m + " names no exception", m.getExceptionTypes().length == 0);
-    }
-
-    private static void text(String program) {
-        String code = program.replaceAll("(?s)/\\*.*?\\*/", " ").replaceAll("//[^\n]*", " ");
-        String[] never = {"throw", "throws", "try", "catch", "finally", "synchronized", "assert", "package", "native",
-            "double", "float", "Object", "Exception", "System\\.(?!arraycopy)", "\\w+Exact", "->", "::", "instanceof"};
-        for (String word : never) {
-            boolean found = java.util.regex.Pattern.compile(Character.isLetter(word.charAt(0)) ? "\\b" + word + "\\b" : word)
-                .matcher(code).find();
-            due.holds("rules 3, 4, 6: no " + word, !found);
-        }
-        library(code);
-        signs(program);
-        for (String line : program.split("\n")) due.holds("a line of up to 120: " + line, line.length() <= 120);
-    }
-
-    /** Rules 4 and 13: of the library only what stands there, and of that only what is used. */
-    private static void library(String code) {
-        Set<String> used = new TreeSet<>();
-        java.util.regex.Matcher call = java.util.regex.Pattern.compile("\\b[A-Z]\\w*\\.[a-z]\\w*\\(").matcher(code);
-        while (call.find()) used.add(call.group());
-        due.holds("rule 4: " + used, used.equals(Set.of("Arrays.fill(", "Math.min(", "System.arraycopy(")));
-        Set<String> imported = new TreeSet<>();
-        java.util.regex.Matcher named = java.util.regex.Pattern.compile("\\bjavax?\\.[\\w.*]*").matcher(code);
-        while (named.find()) imported.add(named.group());
-        due.holds("rule 4: " + imported, imported.equals(Set.of("java.util.Arrays")));
-        due.holds("rule 5: no static initialiser", !java.util.regex.Pattern.compile("\\bstatic\\s*\\{").matcher(code).find());
-    }
-
-    /** Rule 4: the signs of a text are 1 to 127. */
-    private static void signs(String program) {
-        boolean plain = true;
-        for (int i = 0; i < program.length(); i++) plain &= program.charAt(i) >= 1 && program.charAt(i) <= 127;
-        due.holds("rule 4: signs", plain);
     }
 
     private static final int[] NUMBERS = {Integer.MIN_VALUE, -9, -1, 0, 1, 2, 3, 4, 5, 7, 8, 9, 60, 61, 100, Integer.MAX_VALUE};
